@@ -8,8 +8,6 @@ import java.util.NoSuchElementException;
  * as one int (see {@link Moves}). So both are compared as numbers, and no call but define makes an object.
  */
 public final class ContextualGrammarLab {
-    private static final int SLOTS = 3;
-
     private final DefinitionText text = new DefinitionText();
     private final Grammar grammar = new Grammar();
     private final Grammar savedGrammar = new Grammar();
@@ -375,7 +373,7 @@ public final class ContextualGrammarLab {
     }
 
     private Slot requireSlot(int slot) {
-        if (slot < 0 || slot >= SLOTS || slot >= slots.length) {
+        if (slot < 0 || slot >= slots.length) {
             throw new IndexOutOfBoundsException("there is no such slot");
         }
         return slots[slot];
@@ -600,7 +598,7 @@ public final class ContextualGrammarLab {
                 int same = sameCharacters(name);
                 reached = Math.max(reached, same);
                 if (same == name.length()) {
-                    position = reached;
+                    position = same;
                     return kind;
                 }
             }

@@ -310,6 +310,13 @@ public final class PromisesTest {
         check.is("c again", 2, () -> define(lab, "axiom c"));
         check.does("removeAxiom(2)", () -> lab.removeAxiom(2));
         check.is("axioms", 2, () -> lab.count(0));
+        check.does("removeAxiom(1)", () -> lab.removeAxiom(1));
+        lab.takeAxiom(0);
+        check.is("an earlier axiom stays", "b", () -> word(lab));
+        ContextualGrammarLab both = labOf("axiom a", "axiom aa", "context a, *");
+        both.removeAxiom(1);
+        take(both, "aa");
+        check.is("aa is no axiom any more", 3L, both::derivations);
     }
 
     private void promise6() {
@@ -453,6 +460,13 @@ public final class PromisesTest {
         ContextualGrammarLab ring = labOf("mode external", "limit 8", "axiom a", "context a, ^a", "context b, ^a", "context c, ^b", "context a, ^c");
         ring.removeContext(0);
         check.is("a ring of three", 3, () -> ring.shortestLoop(0));
+        ContextualGrammarLab five = labOf("mode external", "limit 8", "axiom aa", "context b, ^aa", "context b, ^ba", "context c, ^bb", "context a, ^cb", "context a, ^ac");
+        for (int i = 0; i < 5; i++) {
+            int context = i;
+            check.is("a ring of five", 5, () -> five.shortestLoop(context));
+        }
+        define(five, "limit 7");
+        check.refuses("an open ring", MISSING, () -> five.shortestLoop(0));
     }
 
     private void promise16() {
@@ -461,6 +475,7 @@ public final class PromisesTest {
         check.is("two forms", false, lab::isConfluent);
         lab.removeContext(0);
         check.is("one form again", true, lab::isConfluent);
+        check.is("b and the empty word", false, () -> labOf("mode external", "axiom ab", "context ab, #=0", "context a, ^b").isConfluent());
         check.is("an unused axiom", true, () -> labOf("mode external", "limit 2", "axiom abc", "context ab, *", "context a,c *").isConfluent());
         check.refuses("too large", LARGE, () -> large().isConfluent());
     }
@@ -527,6 +542,9 @@ public final class PromisesTest {
         ContextualGrammarLab lab = labOf("mode external", "axiom ab", "axiom cccccccc", "context a,b *", "limit 4");
         check.is("empty word", false, lab::isGenerated);
         check.refuses("rank of it", MISSING, lab::rank);
+        take(lab, "ab");
+        check.is("ab", true, lab::isGenerated);
+        check.is("rank of ab", 0, lab::rank);
         take(lab, "aabb");
         check.is("aabb", true, lab::isGenerated);
         check.is("rank of aabb", 1, lab::rank);
@@ -568,6 +586,11 @@ public final class PromisesTest {
         check.is("nested length", 2, nested::derivationLength);
         step(nested, 0, 0, 0, 2);
         step(nested, 1, 0, 0, 4);
+        ContextualGrammarLab made = labOf("axiom a", "axiom aa", "limit 3", "context a, *");
+        take(made, "aa");
+        check.is("an axiom that is made, too", 0, made::derivationLength);
+        take(made, "aaa");
+        check.is("by the longer axiom", 1, made::derivationLength);
         ContextualGrammarLab quick = labOf("axiom b", "limit 5", "context a, *", "context aa, *");
         take(quick, "aaab");
         check.is("the fewest", 2, quick::derivationLength);
