@@ -4,6 +4,7 @@ import java.util.concurrent.Callable;
 final class Check {
     private int checks = 0;
     private int wrong = 0;
+    private String sentence = "";
 
     /** What a call answers: its result as a text, or the name of the exception's class behind "throws.". */
     static String answer(Callable<Object> call) {
@@ -21,12 +22,20 @@ final class Check {
         };
     }
 
+    /** The sentence of the document that the checks from here on belong to. */
+    void about(String newSentence) {
+        sentence = newSentence;
+    }
+
     void is(String what, Object due, Callable<Object> call) {
         String got = answer(call);
         checks++;
         if (!got.equals(String.valueOf(due))) {
             wrong++;
             System.out.println(what + " answered " + got + ", due is " + due);
+            if (!sentence.isEmpty()) {
+                System.out.println("    " + sentence);
+            }
         }
     }
 

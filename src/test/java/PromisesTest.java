@@ -1,13 +1,5 @@
 /** A method for each promise of the document: ordinary inputs, the named edges and wrong inputs. */
-public final class PromisesTest {
-    private static final String BOUNDS = "IndexOutOfBoundsException";
-    private static final String ARGUMENT = "IllegalArgumentException";
-    private static final String STATE = "IllegalStateException";
-    private static final String LARGE = "UnsupportedOperationException";
-    private static final String MISSING = "NoSuchElementException";
-
-    private final Check check = new Check();
-
+public final class PromisesTest extends LabChecks {
     public static void main(String[] args) {
         PromisesTest test = new PromisesTest();
         test.definitions();
@@ -66,45 +58,6 @@ public final class PromisesTest {
         promise34To36();
         promise37();
         promise38And39();
-    }
-
-    private static void type(ContextualGrammarLab lab, String text) {
-        for (char c : text.toCharArray()) {
-            lab.append(c);
-        }
-    }
-
-    private static int define(ContextualGrammarLab lab, String text) {
-        type(lab, text);
-        return lab.define();
-    }
-
-    private static ContextualGrammarLab labOf(String... texts) {
-        ContextualGrammarLab lab = new ContextualGrammarLab();
-        for (String text : texts) {
-            define(lab, text);
-        }
-        return lab;
-    }
-
-    private static void take(ContextualGrammarLab lab, String word) {
-        lab.clearWord();
-        for (char c : word.toCharArray()) {
-            lab.addLetter(c);
-        }
-    }
-
-    private static String word(ContextualGrammarLab lab) {
-        StringBuilder word = new StringBuilder();
-        for (int i = 0; i < lab.wordLength(); i++) {
-            word.append(lab.letterAt(i));
-        }
-        return word.toString();
-    }
-
-    /** A language with more than 300 words. */
-    private static ContextualGrammarLab large() {
-        return labOf("axiom a", "context a, *", "context b, *", "context c, *", "limit 8");
     }
 
     private void promise1() {
