@@ -10,6 +10,7 @@ public final class PromisesTest extends LabChecks {
         test.reductions();
         test.arraysAndSnapshot();
         test.examples();
+        test.exampleOfTheReadme();
         test.callsAfterExceptions();
         test.check.end("PromisesTest");
     }
@@ -804,6 +805,27 @@ public final class PromisesTest extends LabChecks {
         check.refuses("letterAt(2)", BOUNDS, () -> word.letterAt(2));
         check.is("isGenerated", false, word::isGenerated);
         check.is("reductions", 0, word::reductions);
+    }
+
+    private void exampleOfTheReadme() {
+        ContextualGrammarLab lab = new ContextualGrammarLab();
+        check.is("readme: axiom", 0, () -> define(lab, "axiom ab"));
+        check.is("readme: context", 0, () -> define(lab, "context a,b ^a&$b"));
+        check.is("readme: second context", 1, () -> define(lab, "context c, #=0"));
+        check.is("readme: limit", 6, () -> define(lab, "limit 4"));
+        check.is("readme: size", 11, lab::size);
+        check.is("readme: sizeOf(4)", 7, () -> lab.sizeOf(4));
+        check.is("readme: minimalContexts", 3, lab::minimalContexts);
+        check.does("readme: takeWord(5)", () -> lab.takeWord(5));
+        check.is("readme: word 5", "abcc", () -> word(lab));
+        check.is("readme: derivationLength", 2, lab::derivationLength);
+        check.is("readme: derivations", 2, lab::derivations);
+        check.is("readme: reductions", 2, lab::reductions);
+        check.does("readme: normalize(0)", () -> lab.normalize(0));
+        check.is("readme: the normal form", "ab", () -> word(lab));
+        check.is("readme: insertions", 4, lab::insertions);
+        check.is("readme: insert(0)", 0, () -> lab.insert(0));
+        check.is("readme: the new word", "aabb", () -> word(lab));
     }
 
     /** A call that throws leaves the state as it was: numbers that no grammar has, at every method that takes one. */
